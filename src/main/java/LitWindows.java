@@ -484,25 +484,22 @@ public final class LitWindows {
         int read(Plant target) {
             target.clear();
             tokens.restart();
-            for (int i = 0; i < MAX_TEXT && tokens.kind != Tokens.OVER; i++) {
-                if (!readStatement(target)) {
-                    return tokens.start;
+            boolean stands = true;
+            for (int i = 0; i < MAX_TEXT && stands && tokens.kind != Tokens.OVER; i++) {
+                if (tokens.isWord("point")) {
+                    stands = target.points < MAX_POINTS && readPoint(target);
+                } else if (tokens.isWord("from")) {
+                    stands = target.arcs < MAX_ARCS && readArc(target);
+                } else if (tokens.isWord("window")) {
+                    stands = target.windows < MAX_WINDOWS && readWindow(target);
+                } else {
+                    stands = tokens.isWord("hide") && target.rules < MAX_RULES && readRule(target);
                 }
             }
+            if (!stands) {
+                return tokens.start;
+            }
             return target.points == 0 ? text.length : NONE;
-        }
-
-        private boolean readStatement(Plant target) {
-            if (tokens.isWord("point")) {
-                return target.points < MAX_POINTS && readPoint(target);
-            }
-            if (tokens.isWord("from")) {
-                return target.arcs < MAX_ARCS && readArc(target);
-            }
-            if (tokens.isWord("window")) {
-                return target.windows < MAX_WINDOWS && readWindow(target);
-            }
-            return tokens.isWord("hide") && target.rules < MAX_RULES && readRule(target);
         }
 
         private boolean readPoint(Plant target) {
@@ -518,11 +515,10 @@ public final class LitWindows {
                 return false;
             }
             tokens.advance();
-            if (tokens.kind != Tokens.SEMICOLON) {
+            if (!takeSemicolon()) {
                 return false;
             }
             target.addPoint(all);
-            tokens.advance();
             return true;
         }
 

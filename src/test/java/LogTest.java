@@ -108,6 +108,9 @@ public final class LogTest {
         LitWindows u = logged("point a any; window a 0; window a 0; window a 0; window a 0; window a 0; window a 0;",
             3, 20, 4, 20, 5, 20, 0, 30, 1, 30, 2, 30);
         explained("the least begin", u, 5, 1, 20, 7, 1, 1, 1, 7);
+        LitWindows v = logged("point a any; window a 0; window a 0; window a 0; window a 0; window a 0; window a 0;",
+            0, 20, 1, 20, 2, 20, 3, 30, 4, 30, 5, 30);
+        explained("the least begin, by other windows", v, 5, 1, 20, 56, 1, 1, 1, 56);
     }
 
     private static void lastRow() {
@@ -117,6 +120,8 @@ public final class LogTest {
         explained("a second before it", logged(plant, 0, 20, 1, 21, 2, 22, 2, 29), 2, 1, 20, 0);
         LitWindows x = logged(plant, 0, 0, 1, 1, 2, 2);
         explained("from second 0 on", x, 2, 1, 0, 0);
+        explained("from second 1 on", logged(plant, 0, 1, 1, 2, 2, 3), 2, 1, 1, 0);
+        explained("in the last second", logged("point a any; window a 0; window a 0; window a 0;", 0, 9, 1, 9, 2, 9), 2, 1, 9, 0);
         LitWindows y = logged("point a any; window a 60; window a 61;", 0, 50);
         explained("a plant with a fault is none", y, -1, -1);
         LitWindows z = logged("point a any; window a 60; window a 60; window a 60;", 0, 50, 1, 50, 2, 50);

@@ -111,5 +111,19 @@ public final class RuleTest {
         harm("one that is enough for two", y, 0, 1, 2);
         LitWindows z = Check.of("point a any; window a 1;");
         harm("without rules", z, 0, 0, 0);
+        StringBuilder s = new StringBuilder();
+        for (int i = 0; i < 9; i++) {
+            s.append("point ").append((char) ('a' + i)).append(" any; window ").append((char) ('a' + i)).append(" 0;");
+        }
+        for (int i = 0; i < 8; i++) {
+            s.append("hide ").append(i).append(" while 8;");
+        }
+        LitWindows u = Check.of(s.toString());
+        harm("window 8 is dark with a to h", u, 0, 0, 0);
+        u.stick(8, 1);
+        harm("all but window 8 are hidden always", u, 0, 36, 255);
+        u.rest(3, true);
+        u.rest(7, true);
+        harm("two rest already", u, 0, 21, 255 - 8 - 128);
     }
 }

@@ -92,6 +92,14 @@ public final class WallTest {
         check.due("also of one that sticks", x.told(0, 3), 3);
         x.stick(0, 2);
         check.due("without a reading", x.told(0, 3), -1);
+        StringBuilder s = new StringBuilder("point a any; point b any; from a to b in 0; window a 12;");
+        for (int i = 1; i <= 11; i++) {
+            s.append("window b ").append(i).append(';');
+        }
+        LitWindows z = Check.of(s.toString());
+        check.due("the board changes at 13 seconds", z.told(0, 1), 13);
+        z.change(0, 11);
+        check.due("read as the twelfth", z.told(0, 2), 25);
         LitWindows y = Check.of("point a any;");
         check.due("without windows", y.told(0, 1), -1);
         check.due("without windows", y.wall(1, 0), 300);
@@ -107,14 +115,20 @@ public final class WallTest {
         check.due("wall(31, 0)", x.wall(31, 0), -1);
         check.due("wall(1, 4)", x.wall(1, 4), -1);
         check.due("wall(1, -1)", x.wall(1, -1), -1);
+        check.due("wall(10, -1) where there is one to change", changeable().wall(10, -1), -1);
+        check.due("wall(10, 4) where there is one to change", changeable().wall(10, 4), -1);
         for (int what = 1; what < 4; what++) {
             check.due("none makes it less", x.wall(1, what), -1);
         }
     }
 
-    private static void changesToMake() {
-        LitWindows x = Check.of("point a any; point b any; point c any; from a to b in 0; from c to b in 0;"
+    private static LitWindows changeable() {
+        return Check.of("point a any; point b any; point c any; from a to b in 0; from c to b in 0;"
             + "window b 0; window b 0; window a 0; window c 0; window b 0;");
+    }
+
+    private static void changesToMake() {
+        LitWindows x = changeable();
         check.due("sum", x.wall(10, 0), 30 + 30 + 300);
         check.due("lesser", x.wall(10, 1), 0);
         check.due("greater", x.wall(10, 2), 3);
