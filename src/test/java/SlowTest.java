@@ -11,8 +11,9 @@ public final class SlowTest {
             clock = 0;
             LitWindows x = new LitWindows();
             Slow y = new Slow();
-            int points = 1 + next(run % 3 == 0 ? 12 : 6);
-            texts(x, y, plantText(points));
+            boolean full = run % 5 == 4;
+            int points = full ? 12 : 1 + next(run % 3 == 0 ? 12 : 6);
+            texts(x, y, plantText(points, full));
             for (int i = 0; i < 120; i++) {
                 calls(x, y, points, "run " + run + " call " + i + " ");
             }
@@ -26,20 +27,18 @@ public final class SlowTest {
         return (int) ((seed >>> 33) % bound);
     }
 
-    private static String plantText(int points) {
+    /** A full one has as many points, windows and rules as can be, and the arcs that still have room. */
+    private static String plantText(int points, boolean full) {
         StringBuilder s = new StringBuilder();
         int spread = next(2) == 0 ? 61 : 1 + next(20);
         for (int i = 0; i < points; i++) s.append("point ").append((char) ('a' + i)).append(next(3) == 0 ? " all;" : " any;");
-        int arcs = next(Math.min(25, 2 + 2 * points));
-        int windows = next(13);
-        int rules = windows > 2 ? next(9) : 0;
-        for (int i = 0; i < arcs; i++) {
-            s.append("from ").append((char) ('a' + next(points))).append(" to ").append((char) ('a' + next(points)));
-            s.append(" in ").append(next(spread)).append(";");
-        }
+        int arcs = full ? 24 : next(Math.min(25, 2 + 2 * points));
+        int windows = full ? 12 : next(13);
+        int rules = full ? 8 : windows > 2 ? next(9) : 0;
+        if (!full) arcs(s, points, arcs, spread);
         for (int i = 0; i < windows; i++) {
             s.append("window ").append((char) ('a' + next(points))).append(' ').append(next(spread));
-            int more = next(3);
+            int more = full ? 0 : next(3);
             for (int j = 0; j < more; j++) s.append(' ').append(next(spread));
             if (more > 0) s.append(" of ").append(1 + next(more + 1));
             s.append(";\n");
@@ -51,7 +50,15 @@ public final class SlowTest {
             if (c != a && c != b && next(2) == 0) s.append(" not ").append(c);
             s.append(";");
         }
+        if (full) arcs(s, points, arcs, spread);
         return s.length() > 600 ? s.substring(0, s.lastIndexOf(";", 599) + 1) : s.toString();
+    }
+
+    private static void arcs(StringBuilder s, int points, int arcs, int spread) {
+        for (int i = 0; i < arcs; i++) {
+            s.append("from ").append((char) ('a' + next(points))).append(" to ").append((char) ('a' + next(points)));
+            s.append(" in ").append(next(spread)).append(";");
+        }
     }
 
     /** Spoiled texts first, then the whole one, so that the runs that follow have a plant. */

@@ -100,6 +100,9 @@ public final class WallTest {
         check.due("the board changes at 13 seconds", z.told(0, 1), 13);
         z.change(0, 11);
         check.due("read as the twelfth", z.told(0, 2), 25);
+        check.due("b: all stages, and nothing told", z.told(1, 1), -1);
+        LitWindows u = Check.of(s.toString().replace("window a", "window b"));
+        check.due("b: thirteen stages, and nothing told", u.told(1, 1), -1);
         LitWindows y = Check.of("point a any;");
         check.due("without windows", y.told(0, 1), -1);
         check.due("without windows", y.wall(1, 0), 300);
