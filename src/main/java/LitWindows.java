@@ -323,8 +323,9 @@ public final class LitWindows {
         return window >= 0 && window < plant.windows;
     }
 
+    /** A heap is of a plant's points: without a plant not even the empty one can fail. */
     private boolean isHeap(int heap) {
-        return heap >= 0 && heap < 1 << plant.points;
+        return hasPlant() && heap >= 0 && heap < 1 << plant.points;
     }
 
     private static boolean isSecond(int second) {

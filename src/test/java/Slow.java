@@ -513,5 +513,5 @@ final class Slow {
 
     private boolean noPoint(int point) { return point < 0 || point >= plant.points.size(); }
     private boolean noWindow(int window) { return window < 0 || window >= plant.windows.size(); }
-    private boolean noHeap(int heap) { return heap < 0 || heap >= 1 << plant.points.size(); }
+    private boolean noHeap(int heap) { return plant.points.isEmpty() || heap < 0 || heap >= 1 << plant.points.size(); }
 }

@@ -13,7 +13,12 @@ public final class SlowTest {
             Slow y = new Slow();
             boolean full = run % 5 == 4;
             int points = full ? 12 : 1 + next(run % 3 == 0 ? 12 : 6);
-            texts(x, y, plantText(points, full));
+            String text = plantText(points, full);
+            // Without a plant first: then every call has little or nothing to answer of.
+            for (int i = 0; i < 40; i++) {
+                calls(x, y, 1 + i % 3, "run " + run + " call " + i + " without a plant ");
+            }
+            texts(x, y, text);
             for (int i = 0; i < 120; i++) {
                 calls(x, y, points, "run " + run + " call " + i + " ");
             }

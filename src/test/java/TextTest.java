@@ -6,6 +6,7 @@ public final class TextTest {
 
     public static void main(String[] args) {
         newObject();
+        heapsWithoutPlant();
         feeding();
         ending();
         wholeTexts();
@@ -48,6 +49,42 @@ public final class TextTest {
         check.due("new: plant", x.plant(), -1);
         check.due("new: till", x.till(5), true);
         check.due("new: off", x.off(5), true);
+    }
+
+    /** Promises 8 to 11 and 20: not even the empty heap can be, until a plant has come. */
+    private static void heapsWithoutPlant() {
+        LitWindows x = new LitWindows();
+        noHeapCanBe("new", x);
+        Check.write(x, "point a any; oops");
+        noHeapCanBe("with a text that has a fault", x);
+        check.due("plant with a fault", x.plant(), -1);
+        noHeapCanBe("a refused plant is none", x);
+        Check.write(x, "point a any;");
+        check.due("fault of a whole text", x.fault(), -1);
+        noHeapCanBe("a text alone is none", x);
+        check.due("plant", x.plant(), 1);
+        check.due("a plant without windows: horns", x.horns(0, 1), 0);
+        check.due("a plant without windows: lit", x.board(0, 0, 0), 0);
+        check.due("a plant without windows: shown", x.board(0, 999, 1), 0);
+        Check.write(x, "oops");
+        check.due("a fault behind a plant", x.plant(), -1);
+        check.due("the plant ahead stays: horns", x.horns(1, 60), 0);
+        check.due("the plant ahead stays: board", x.board(1, 0, 0), 0);
+    }
+
+    private static void noHeapCanBe(String when, LitWindows x) {
+        for (int heap = -1; heap <= 1; heap++) {
+            String at = when + ": heap " + heap;
+            check.due(at + " fails", x.fails(heap, 0), -1);
+            check.due(at + " lit", x.lit(heap, 0), -1);
+            for (int what = 0; what <= 1; what++) {
+                check.due(at + " first " + what, x.first(heap, what), -1);
+                check.due(at + " board " + what, x.board(heap, 0, what), -1);
+                check.due(at + " board at 999 " + what, x.board(heap, 999, what), -1);
+            }
+            check.due(at + " horns of 1", x.horns(heap, 1), -1);
+            check.due(at + " horns of 60", x.horns(heap, 60), -1);
+        }
     }
 
     private static void feeding() {
