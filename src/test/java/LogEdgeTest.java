@@ -357,9 +357,6 @@ public final class LogEdgeTest {
         LitWindows bits = logged("point a any;point b any;point c any;from c to a in 0;from c to b in 0;from b to a in 0;from a to b in 0;window a 0;window b 0;window a 0;",
             0, 30, 1, 30, 2, 30);
         explained("a, b or c", bits, 2, 1, 30, 0, 3, 0, 7, 0);
-        LitWindows pair = logged("point a any;point b any;point c all;point d any;from a to c in 0;from b to c in 0;from d to c in 0;"
-            + "window a 0;window b 0;window d 0;window a 0;window b 0;window d 0;", 0, 30, 1, 30, 2, 30);
-        explained("none is cheaper than any", pair, 3, 0, 0, 7, 1, 0, 0, 7);
         LitWindows begin = logged("point a any;window a 0;window a 0;window a 0;window a 0;window a 0;window a 0;", 0, 30, 1, 30, 2, 30, 3, 31, 4, 31, 5, 31);
         explained("the least B", begin, 5, 1, 30, 56, 1, 1, 1, 56);
         begin.off(1);

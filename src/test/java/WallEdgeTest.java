@@ -220,8 +220,8 @@ public final class WallEdgeTest {
         LitWindows x = Check.of(s + "window a 60;");
         check.due("the twelfth tells", x.told(0, 1), 61);
         check.due("the twelfth tells", x.told(0, 5), 65);
-        check.due("slower: the readings are 5 behind by one second each", x.told(0, 6), 5 + 12 * 6);
-        check.due("by 30", x.told(0, 30), 5 + 12 * 30 > 300 ? -1 : 365);
+        check.due("slower: twelve readings with no wait between", x.told(0, 6), 5 + 12 * 6);
+        check.due("by 30 it is behind T 300", x.told(0, 30), -1);
         x.till(365);
         check.due("by 30, T 365", x.told(0, 30), 365);
         x.till(364);
