@@ -400,6 +400,7 @@ public final class FailEdgeTest {
         check.due("no windows at all", y.horns(0, 60), 0);
     }
 
+    /** "HORNS that begin": as many as there can be windows */
     private static void hornsOfTwelve() {
         StringBuilder s = new StringBuilder("point a any;");
         for (int i = 0; i < 12; i++) {

@@ -162,6 +162,7 @@ public final class LogEdgeTest {
         check.due("rows of other windows join none", z.joined(60), 5);
     }
 
+    /** "How many rows of the LOG aren't JOINED, by G (0 .. 60)": of none, and of as many as there can be */
     private static void joinedManyOrNone() {
         LitWindows x = Check.of("point a any;window a 0;");
         for (int g = 0; g <= 60; g++) {
@@ -293,6 +294,7 @@ public final class LogEdgeTest {
         explained("erased", x, 0, 0, 0, 0, 1, 0, 0, 0);
     }
 
+    /** "NONE if there is no such WINDOW": then no row can be, and none is to be explained */
     private static void withoutWindows() {
         LitWindows x = Check.of("point a any;");
         explained("without windows", x, 0, 0, 0, 0, 1, 0, 0, 0);
@@ -476,6 +478,7 @@ public final class LogEdgeTest {
         check.due("row 3 behind the last makes no other end", y.altered(3, 999), 2);
     }
 
+    /** "NONE for others, or without a PLANT."; the LOG is empty then */
     private static void withoutPlant() {
         LitWindows x = new LitWindows();
         for (int what = -1; what <= 8; what++) {

@@ -143,6 +143,7 @@ public final class RuleEdgeTest {
         }
     }
 
+    /** "LIT (what 0) or SHOWN (1) .., if a heap fails of its own; NONE if they can't be." */
     private static void whatsOfBoards() {
         LitWindows x = Check.of("point a any;window a 0;window a 0;hide 0 while 1;");
         check.due("lit", x.board(1, 0, 0), 3);
@@ -194,6 +195,7 @@ public final class RuleEdgeTest {
         check.due("not the window 0, which is lit", y.board(3, 0, 1), 7);
     }
 
+    /** "while one that is LIT then": one that sticks lit always is, one that sticks dark never */
     private static void hiddenAndStuck() {
         LitWindows x = Check.of("point a any;window a 0;window a 0;window a 0;hide 0 while 1 not 2;");
         x.stick(2, 2);
@@ -285,6 +287,7 @@ public final class RuleEdgeTest {
         harm("2 and 3 do", x, 0, 0, 0);
     }
 
+    /** "without which no POINT is LOST and none ALIKE": all eight, and less those that rest */
     private static void allToRest() {
         StringBuilder s = new StringBuilder();
         for (int i = 0; i < 9; i++) {
@@ -313,6 +316,7 @@ public final class RuleEdgeTest {
         harm("0 to 2", x, 1, 0, 1);
     }
 
+    /** "NONE for others, or without a PLANT."; a plant without windows, or without rules */
     private static void nothingThere() {
         LitWindows none = new LitWindows();
         for (int what = -1; what <= 3; what++) {

@@ -152,6 +152,7 @@ public final class TextEdgeTest {
         }
     }
 
+    /** "NAMES N are words": no other byte begins one */
     private static void everyByteAsAName() {
         for (int b = 0; b < 256; b++) {
             int due = isLetter(b) ? -1 : isBetween(b) ? 8 : 6;

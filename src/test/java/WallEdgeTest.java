@@ -269,6 +269,7 @@ public final class WallEdgeTest {
         check.due("sum", x.wall(30, 0), 300);
     }
 
+    /** "T for those without"; "or there are none": no window, or no two */
     private static void withoutWindows() {
         LitWindows x = Check.of("point a any;point b any;");
         check.due("told", x.told(0, 1), -1);
@@ -295,6 +296,7 @@ public final class WallEdgeTest {
         check.due("T 600", x.wall(1, 0), 1 + 31 + 600);
     }
 
+    /** "The SUM is of TOLD over all POINTS": twelve of them with T 600 */
     private static void greatestSum() {
         StringBuilder s = new StringBuilder();
         for (int i = 0; i < 12; i++) {
@@ -373,6 +375,7 @@ public final class WallEdgeTest {
         }
     }
 
+    /** "NONE for others, without a PLANT" */
     private static void withoutPlant() {
         LitWindows x = new LitWindows();
         for (int what = -1; what <= 4; what++) {
